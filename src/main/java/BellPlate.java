@@ -507,9 +507,9 @@ public final class BellPlate {
             }
         }
 
-        static int counted(long[] planes, int set) {
+        static int counted(long[] planes, int used, int set) {
             int sum = 0;
-            for (int i = 0; i < planes.length; i++) {
+            for (int i = 0; i < used && i < planes.length; i++) {
                 sum |= (int) (planes[i] >>> set & 1L) << i;
             }
             return sum;
@@ -621,7 +621,25 @@ public final class BellPlate {
             draft.wipe();
             advance();
             for (int i = 0; i < TAPE_LENGTH && fault == 0 && kind != END; i++) {
-                line();
+                switch (kind) {
+                    case THING:
+                        thingLine();
+                        break;
+                    case MOST:
+                        mostLine();
+                        break;
+                    case BAR:
+                        barLine();
+                        break;
+                    case ALLOW:
+                        allowLine();
+                        break;
+                    case COST:
+                        costLine();
+                        break;
+                    default:
+                        fail(NO_TOKEN);
+                }
             }
             if (draft.all() > Tower.MOST_WEIGHTS) {
                 fail(TOO_GREAT);
@@ -691,28 +709,6 @@ public final class BellPlate {
 
         private static boolean isDigit(char sign) {
             return sign >= '0' && sign <= '9';
-        }
-
-        private void line() {
-            switch (kind) {
-                case THING:
-                    thingLine();
-                    break;
-                case MOST:
-                    mostLine();
-                    break;
-                case BAR:
-                    barLine();
-                    break;
-                case ALLOW:
-                    allowLine();
-                    break;
-                case COST:
-                    costLine();
-                    break;
-                default:
-                    fail(NO_TOKEN);
-            }
         }
 
         private void thingLine() {
@@ -1219,17 +1215,17 @@ public final class BellPlate {
         }
 
         long at(int number) {
-            return lists[number];
+            return number >= 0 && number < size ? lists[number] : 0L;
         }
 
         /** By how many WEIGHTS that MAY be it is this LIST. */
         int share(int number) {
-            return shares[number];
+            return number >= 0 && number < size ? shares[number] : 0;
         }
 
         /** Which LIST it is by these WEIGHTS; NONE: they may not be. */
         int numberOf(int weights) {
-            return numbers[weights];
+            return weights >= 0 && weights < numbers.length ? numbers[weights] : NONE;
         }
 
         /** A row to work on, as long as there may be LISTS; what it holds is gone with the next call. */
@@ -1238,9 +1234,9 @@ public final class BellPlate {
         }
 
         long listOf(int weights) {
-            int number = numbers[weights];
+            int number = numberOf(weights);
             if (number >= 0) {
-                return lists[number];
+                return at(number);
             }
             weigh(weights);
             long ringing = 0L;
@@ -1329,7 +1325,7 @@ public final class BellPlate {
             }
             int bars = tower.bar() + 1;
             if (lows * bars > lowBlocks.length) {
-                lowBlocks = new int[lows * bars];
+                lowBlocks = new int[Math.max(lows * bars, 2 * lowBlocks.length)];
             }
             for (int low = 0; low < lows; low++) {
                 weigh(low);
@@ -1713,6 +1709,7 @@ public final class BellPlate {
         private final Book book;
         private final Rest rest;
         private final long[] planes;
+        private int planesUsed;
         private final int[] froms;
         private final int[] tos;
         private final int[] depths;
@@ -1753,22 +1750,32 @@ public final class BellPlate {
             Arrays.fill(planes, 0L);
             long some = 0L;
             long every = -1L;
+            int all = 0;
             for (int i = from; i < to; i++) {
                 long list = lists.at(row[i]);
                 some |= list;
                 every &= list;
-                if (way == STILL) {
-                    addTimes(list, lists.share(row[i]));
-                } else {
-                    Sets.addTo(planes, list, 0);
+                int times = way == STILL ? lists.share(row[i]) : 1;
+                addTimes(list, times);
+                all += times;
+            }
+            planesUsed = bitsOf(all);
+            long parting = some & ~every;
+            return way == STILL ? stillest(parting) : evenest(parting, all, way == CHEAP);
+        }
+
+        private static int bitsOf(int number) {
+            int bits = 0;
+            for (int i = 0; i < PLANES; i++) {
+                if (number >> i != 0) {
+                    bits = i + 1;
                 }
             }
-            long parting = some & ~every;
-            return way == STILL ? stillest(parting) : evenest(parting, to - from, way == CHEAP);
+            return bits;
         }
 
         private void addTimes(long list, int times) {
-            for (int plane = 0; plane < PLANES; plane++) {
+            for (int plane = 0; plane < PLANES && times >> plane != 0; plane++) {
                 if ((times >> plane & 1) != 0) {
                     Sets.addTo(planes, list, plane);
                 }
@@ -1780,7 +1787,7 @@ public final class BellPlate {
             int least = 0;
             for (int set = 0; set < tower.sets(); set++) {
                 if (Sets.has(parting, set)) {
-                    int ringing = Sets.counted(planes, set);
+                    int ringing = Sets.counted(planes, planesUsed, set);
                     if (best == NONE || ringing < least) {
                         best = set;
                         least = ringing;
@@ -1795,11 +1802,11 @@ public final class BellPlate {
             int leastCost = 0;
             int least = 0;
             for (int set = 0; set < tower.sets(); set++) {
-                int cost = cheap ? tower.costOf(set) : 0;
-                if (Sets.has(parting, set) && (best == NONE || cost <= leastCost)) {
-                    int ringing = Sets.counted(planes, set);
+                if (Sets.has(parting, set)) {
+                    int cost = cheap ? tower.costOf(set) : 0;
+                    int ringing = Sets.counted(planes, planesUsed, set);
                     int more = Math.max(ringing, size - ringing);
-                    if (best == NONE || cost < leastCost || more < least) {
+                    if (best == NONE || cost < leastCost || cost == leastCost && more < least) {
                         best = set;
                         leastCost = cost;
                         least = more;
@@ -2059,9 +2066,8 @@ public final class BellPlate {
             if (depths[some] >= 0) {
                 return depths[some];
             }
-            int first = Integer.numberOfTrailingZeros(some);
             int best = 0;
-            if ((some & ~groups[first]) != 0) {
+            if (!isAlike(some)) {
                 best = MOST_LISTS;
                 for (int i = 0; i < splitCount && best > 1; i++) {
                     best = Math.min(best, depthBy(i, some, level, best));
@@ -2069,6 +2075,15 @@ public final class BellPlate {
             }
             depths[some] = (byte) best;
             return best;
+        }
+
+        private boolean isAlike(int some) {
+            for (int i = 0; i < MOST_LISTS; i++) {
+                if ((some >> i & 1) != 0) {
+                    return (some & ~groups[i]) == 0;
+                }
+            }
+            return true;
         }
 
         /** The depth if this SET comes first; the bound (or more) if it is no better than that. */
@@ -2433,7 +2448,10 @@ public final class BellPlate {
             }
         }
 
-        /** A LIST that RINGS no more of the told SETS than another one can be left out of a pair. */
+        /**
+         * A LIST that RINGS no more of the told SETS than another one can be left out of a pair. The
+         * last ones come first, as their WEIGHTS are greater and they make more others needless.
+         */
         int bellsNeeded() {
             long due = book.setsTold(true, 0);
             long quiet = book.setsTold(false, 0);
@@ -2442,7 +2460,7 @@ public final class BellPlate {
             }
             int[] kept = lists.spare();
             int size = 0;
-            for (int i = 0; i < lists.size(); i++) {
+            for (int i = lists.size() - 1; i >= 0; i--) {
                 long list = lists.at(i);
                 if ((list & quiet) == 0L) {
                     if ((due & ~list) == 0L) {
