@@ -1461,7 +1461,7 @@ public final class BellPlate {
             return hints - 1;
         }
 
-        /** A MARK's time is 0 while nothing is on it. */
+        /** A MARK's time is 0 as long as nothing is on it. */
         boolean layMark(int mark) {
             time++;
             markTimes[mark] = time;
