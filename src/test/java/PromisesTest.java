@@ -438,7 +438,26 @@ public final class PromisesTest {
         x.trial(5, true);
         x.trial(6, false);
         x.trial(1, false);
-        dueAll("not 0 to most", new long[] {x.smallest(0), x.smallest(1), x.smallest(2)}, 4, 3, 14);
+        dueAll("just so", new long[] {x.smallest(0), x.smallest(1), x.smallest(2)}, 4, 3, 14);
+        start(20, "thing a;thing b;thing c;thing d;thing e;");
+        int[] sets = {4, 11, 5, 19, 2};
+        for (int s : sets) x.trial(s, s > 10);
+        dueAll("the bar ahead of the number", new long[] {x.smallest(0), x.smallest(1), x.smallest(2)}, 2, 1, 320);
+        start(20, "thing a;thing b;most 1;");
+        x.trial(3, true);
+        x.trial(1, false);
+        x.trial(2, false);
+        dueAll("both", new long[] {x.smallest(0), x.smallest(1), x.smallest(2)}, 2, 2, 3);
+        start(20, "thing a;thing b;thing c;most 1;");
+        for (int s : new int[] {3, 5, 6}) x.trial(s, true);
+        for (int s : new int[] {1, 2, 4}) x.trial(s, false);
+        dueAll("any two", new long[] {x.smallest(0), x.smallest(1), x.smallest(2)}, 3, 2, 7);
+        x.trial(0, true);
+        due("most is too small for none", x.smallest(0), -1);
+        start(20, "thing a;thing b;thing c;most 1;");
+        for (int s : new int[] {3, 5}) x.trial(s, true);
+        for (int s : new int[] {1, 6}) x.trial(s, false);
+        due("not with 0 to 1", x.smallest(0), -1);
     }
 
     private static void p21() {
@@ -708,6 +727,10 @@ public final class PromisesTest {
         dueAll("others", new long[] {x.guess(3, 0), x.guess(-1, 0), x.guess(0, 3), x.guess(0, -1)}, -1, -1, -1, -1);
         x.trial(3, false);
         due("none left", x.guess(0, 1), -1);
+        start(40, "thing a;thing b;most 9;bar 9;");
+        dueAll("up to 9", new long[] {x.guess(1, 0), x.guess(1, 1), x.guess(1, 2)}, 0, 0, 9);
+        x.trial(1, true);
+        dueAll("just 9", new long[] {x.guess(0, 0), x.guess(0, 1), x.guess(0, 2)}, 9, 9, 9);
     }
 
     private static void p41() {
