@@ -511,6 +511,9 @@ public final class PromisesTest {
         x.trial(1, true);
         x.hint(0, 3);
         dueAll("each counts", new long[] {x.wrong(0), x.wrong(1)}, 2, 18);
+        start(22, THREE);
+        for (int i = 0; i < 60; i++) x.trial(0, true);
+        dueAll("all wrong", new long[] {x.wrong(0), x.wrong(1), x.with(59), x.with(60), x.suspect(59)}, 60, 27, 0, 27, 1);
         start(22, "thing a;allow 0;");
         dueAll("none may be", new long[] {x.wrong(0), x.wrong(1)}, -1, -1);
     }
